@@ -32,6 +32,8 @@ public final class CoffeeThatSlops {
     private static final int LONGEST_SWING = 400;
     private static final int FARTHEST = 1000;
     private static final int LATER = 40;
+    // no two ints take so many to find their common divisor
+    private static final int MOST_DIVISIONS = 100;
 
     private static final int WALKS = 4;
     private static final int LAWS = 3;
@@ -897,8 +899,8 @@ public final class CoffeeThatSlops {
 
     private void tellFraction(int upper, int lower) {
         int common = commonDivisor(Math.abs(upper), lower);
-        tellMore(upper == 0 || common == 0 ? 0 : upper / common);
-        tellMore(upper == 0 || common == 0 ? 1 : lower / common);
+        tellMore(common == 0 ? 0 : upper / common);
+        tellMore(common == 0 ? 1 : lower / common);
     }
 
     private void tellMore(long number) {
@@ -909,9 +911,9 @@ public final class CoffeeThatSlops {
     }
 
     private static int commonDivisor(int one, int other) {
-        int rest = other;
         int common = one;
-        while (rest > 0) {
+        int rest = other;
+        for (int i = 0; i < MOST_DIVISIONS && rest > 0; i++) {
             int next = common % rest;
             common = rest;
             rest = next;
@@ -972,7 +974,7 @@ public final class CoffeeThatSlops {
         }
 
         void lean(Cup cup, int tilt) {
-            int last = cup.last;
+            int last = Math.max(1, cup.last);
             for (int c = 0; c <= last; c++) {
                 heights[c] = between(cup.fill + tilt * (last - 2 * c) / last, 0, cup.rim);
             }

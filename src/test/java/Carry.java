@@ -135,6 +135,17 @@ final class Carry {
         return c;
     }
 
+    /** A cup with HOLE v at a GAP (100: no wall), STIFF, DAMP, FOAM and BITE, and nothing else of its own. */
+    static Carry of(int[] cup, int gap, int v, int... settings) {
+        Carry c = new Carry();
+        c.cells = cup[0];
+        c.rim = cup[1];
+        c.fill = cup[2];
+        c.holes[gap] = v;
+        System.arraycopy(settings, 0, c.settings, 0, settings.length);
+        return c;
+    }
+
     static final String[] WALKS = {
         "g60,6,20*6", "g25,8,40*4;s5;j90;g70,3,0*3", "w20;g40,5,10*5;s3;j-80", "s4;w30;g20,10,3*3;w0;g90,2,90*4", "",
         "j150;s9;g15,7,15*5", "s3;w4"};

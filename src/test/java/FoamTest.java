@@ -29,6 +29,9 @@ public final class FoamTest {
                 DUE.is("layers() tells no ROW", x.count(7), 0);
             }
         }
+        CoffeeThatSlops y = Carry.of(new int[] {18, 93, 60}, 0, 100, 11, 1, 0, 5).make();
+        Spell.walk(y, 0, "g27,29,1*3");
+        DUE.is("nine do", y.layers(0), 9);
         DUE.is("some layers do, some do not", found[0] > 0 && found[1] + found[2] + found[3] > 0 && found[10] > 0, true);
         CoffeeThatSlops x = new CoffeeThatSlops();
         DUE.is("layers(-1)", x.layers(-1), -1);
@@ -174,6 +177,12 @@ public final class FoamTest {
         for (int[] w : wrong) {
             DUE.is("best refused", x.best(w[0], w[1]), -1);
         }
+        // the wall keeps the last CELL at its FILL; any HOLE lets it rise above
+        CoffeeThatSlops y = Carry.of(new int[] {20, 999, 999}, 0, 100, 16, 0, 0, 6).make();
+        y.set(4, 100);
+        Spell.walk(y, 0, "j200;".repeat(9) + "j200");
+        DUE.is("no HOLE is best", y.best(0, 18), 0);
+        DUE.row("no HOLE is best", y, 999);
         DUE.is("no TICKS", x.best(0, 6), 100);
         DUE.row("no TICKS", x, 0);
     }
@@ -198,6 +207,12 @@ public final class FoamTest {
             }
         }
         DUE.is("some LID between", between > 0, true);
+        CoffeeThatSlops y = Carry.of(new int[] {16, 162, 82}, 0, 100, 1, 4, 0, 3).make();
+        Spell.walk(y, 0, "g26,8,60*9");
+        y.set(4, 99);
+        int most = y.would(0, 1) - 1;
+        DUE.is("all LIDS but the last spill more", most >= 0, true);
+        DUE.is("the last LID", y.lid(0, most), 100);
         CoffeeThatSlops x = new CoffeeThatSlops();
         int[][] wrong = {{-1, 0}, {4, 0}, {0, -1}, {0, 10000}};
         for (int[] w : wrong) {

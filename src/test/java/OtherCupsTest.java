@@ -13,6 +13,7 @@ public final class OtherCupsTest {
         two();
         stop();
         stopByNumbers();
+        stopLong();
         pause();
         stir();
         DUE.end();
@@ -137,6 +138,9 @@ public final class OtherCupsTest {
             }
         }
         DUE.is("some second cup comes later", later > 3, true);
+        CoffeeThatSlops y = Carry.of(new int[] {13, 161, 159}, 0, 100, 4, 0, 2, 5).make();
+        Spell.walk(y, 0, "g60,14,42*3");
+        DUE.is("the latest second cup", y.two(0), 40);
         CoffeeThatSlops x = new CoffeeThatSlops();
         DUE.is("two(-1)", x.two(-1), -1);
         DUE.is("two(4)", x.two(4), -1);
@@ -150,46 +154,63 @@ public final class OtherCupsTest {
         for (int k = 0; k < 20; k++) {
             Carry like = Carry.some(k);
             like.settings[6] = 0;
-            int speed = k < 3 ? k + 1 : 1 + k * 613 % 2500;
-            int want = -2;
-            int greatest = 0;
-            for (int n = 1; n <= 200 && want < 0; n++) {
-                List<int[]> ticks = new ArrayList<>();
-                int left = speed;
-                for (int i = 0; i < n; i++) {
-                    int push = (left + n - i - 1) / (n - i);
-                    left -= push;
-                    ticks.add(new int[] {push, 0, 0, -1});
-                }
-                if (ticks.get(0)[0] > 500) {
-                    continue;
-                }
-                for (int i = 0; i < 100; i++) {
-                    ticks.add(null);
-                }
-                Carry c = new Carry().like(like);
-                c.settings[6] = 3;
-                if (c.run(ticks, NEVER).spilt == 0) {
-                    want = n;
-                    greatest = c.greatest;
-                }
-            }
-            none += want < 0 ? 1 : 0;
-            later += want > 1 ? 1 : 0;
-            CoffeeThatSlops x = like.make();
-            x.steps(0);
-            DUE.is("stop(" + speed + "), cup " + k, x.stop(speed), want);
-            if (want > 0) {
-                DUE.row("stop(" + speed + "), cup " + k, x, greatest);
-            } else {
-                DUE.row("-2 leaves the ROW", x, 0, 0, 0);
-            }
+            int got = stopIsDue("stop, cup " + k, like, k < 3 ? k + 1 : 1 + k * 613 % 2500);
+            none += got < 0 ? 1 : 0;
+            later += got > 1 ? 1 : 0;
         }
         DUE.is("some stops are there, some not", none > 0 && later > 3, true);
         CoffeeThatSlops x = new CoffeeThatSlops();
         DUE.is("stop(0)", x.stop(0), -1);
         DUE.is("stop(5001)", x.stop(5001), -1);
         DUE.is("stop(-9)", x.stop(-9), -1);
+    }
+
+    /** Long ones, and such in which it matters how many TICKS behind are looked at. */
+    private static void stopLong() {
+        Carry[] cups = {Carry.of(new int[] {11, 296, 206}, 5, 83, 16, 0, 0, 5), Carry.of(new int[] {15, 269, 138}, 0, 57, 7, 8),
+            Carry.of(new int[] {17, 309, 111}, 7, 52, 15, 0, 0, 3), Carry.of(new int[] {11, 387, 289}, 0, 100, 15, 0, 0, 4),
+            Carry.of(new int[] {15, 30, 9}, 13, 5, 3, 3, 0, 0), Carry.of(new int[] {5, 264, 249}, 3, 6, 5, 0, 0, 3),
+            Carry.of(new int[] {10, 393, 199}, 8, 20, 1, 2, 0, 2)};
+        int[] speeds = {2216, 1482, 4235, 251, 1593, 1716, 3715};
+        int[] wants = {200, 200, -2, 12, 97, 85, 58};
+        for (int i = 0; i < cups.length; i++) {
+            DUE.is("stop, long cup " + i, stopIsDue("stop, long cup " + i, cups[i], speeds[i]), wants[i]);
+        }
+    }
+
+    private static int stopIsDue(String call, Carry like, int speed) {
+        int want = -2;
+        int greatest = 0;
+        for (int n = 1; n <= 200 && want < 0; n++) {
+            List<int[]> ticks = new ArrayList<>();
+            int left = speed;
+            for (int i = 0; i < n; i++) {
+                int push = (left + n - i - 1) / (n - i);
+                left -= push;
+                ticks.add(new int[] {push, 0, 0, -1});
+            }
+            if (ticks.get(0)[0] > 500) {
+                continue;
+            }
+            for (int i = 0; i < 100; i++) {
+                ticks.add(null);
+            }
+            Carry c = new Carry().like(like);
+            c.settings[6] = 3;
+            if (c.run(ticks, NEVER).spilt == 0) {
+                want = n;
+                greatest = c.greatest;
+            }
+        }
+        CoffeeThatSlops x = like.make();
+        x.steps(0);
+        DUE.is(call, x.stop(speed), want);
+        if (want > 0) {
+            DUE.row(call, x, greatest);
+        } else {
+            DUE.row(call + ": -2 leaves the ROW", x, 0, 0, 0);
+        }
+        return want;
     }
 
     private static void stopByNumbers() {
@@ -237,6 +258,9 @@ public final class OtherCupsTest {
             }
         }
         DUE.is("some pause helps", later > 3, true);
+        CoffeeThatSlops y = Carry.of(new int[] {17, 102, 60}, 0, 100, 5, 0, 0, 4).make();
+        Spell.walk(y, 0, "g41,14,50*5;g12,10,0*3");
+        DUE.is("the longest pause", y.pause(0, 14), 40);
         CoffeeThatSlops x = new CoffeeThatSlops();
         int[][] wrong = {{-1, 0}, {4, 0}, {0, -1}, {0, 1001}};
         for (int[] w : wrong) {

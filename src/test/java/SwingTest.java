@@ -23,6 +23,8 @@ public final class SwingTest {
         swing();
         dies();
         worst();
+        swingsLate();
+        worstInTheLastSteps();
         leavesAllAsItIs();
         DUE.end();
     }
@@ -123,6 +125,38 @@ public final class SwingTest {
         x.sheet(2, 7, 0, 0);
         DUE.is("of equal ones the least", x.worst(9), 2);
         DUE.row("of equal ones the least", x, 0);
+    }
+
+    private static void swingsLate() {
+        CoffeeThatSlops x = Carry.of(new int[] {19, 140, 131}, 0, 100, 1, 3, 1, 1).make();
+        DUE.is("the last that counts", x.swing(159), 399);
+        int[] slopes = letGo(x, 159, 400);
+        x.swing(159);
+        DUE.row("the last that counts", x, slopes[0], slopes[399]);
+        x = Carry.of(new int[] {18, 18, 10}, 0, 100, 2, 0, 0, 6).make();
+        slopes = letGo(x, 77, 401);
+        DUE.is("the 400th is one", slopes[400] > slopes[399] && slopes[400] >= slopes[401], true);
+        DUE.is("the 400th does not count", x.swing(77), -2);
+    }
+
+    private static void worstInTheLastSteps() {
+        Carry[] cups = {Carry.of(new int[] {12, 384, 296}, 0, 100, 13, 3, 0, 4),
+            Carry.of(new int[] {16, 29, 6}, 0, 100, 8, 5, 0, 0), Carry.of(new int[] {6, 150, 127}, 2, 7, 4, 0, 0, 4),
+            Carry.of(new int[] {19, 297, 203}, 16, 16, 2, 1, 0, 3)};
+        int[] pushes = {25, 2, 31, 51};
+        for (int i = 0; i < cups.length; i++) {
+            CoffeeThatSlops x = cups[i].make();
+            cups[i].settings[4] = 100;
+            int want = 0;
+            int greatest = -1;
+            for (int n = 2; n <= 40; n++) {
+                int size = cups[i].run("g" + pushes[i] + "," + n + ",0*20").greatestSlope;
+                want = size > greatest ? n : want;
+                greatest = Math.max(size, greatest);
+            }
+            DUE.is("20 STEPS, cup " + i, x.worst(pushes[i]), want);
+            DUE.row("20 STEPS, cup " + i, x, greatest);
+        }
     }
 
     private static void leavesAllAsItIs() {

@@ -165,6 +165,9 @@ public final class WalkTest {
         walk(x, most + ";w9", 1000);
         walk(x, most + ";g1,2,0*1;", -19);
         walk(x, "g1,40,0*26", -10);
+        walk(x, "s99;".repeat(10) + "s9;j0", 1000);
+        walk(x, "s99;".repeat(10) + "s9;s1", 1000);
+        walk(x, "s99;".repeat(10) + "s9;s2", -1 - 44);
         walk(x, "s1;" + most, -13);
         walk(x, "s99;".repeat(10) + "s10;j0", -1 - 45);
         walk(x, most + ";j201", -15);
