@@ -180,7 +180,9 @@ public final class FoamTest {
         // the wall keeps the last CELL at its FILL; any HOLE lets it rise above
         CoffeeThatSlops y = Carry.of(new int[] {20, 999, 999}, 0, 100, 16, 0, 0, 6).make();
         y.set(4, 100);
-        Spell.walk(y, 0, "j200;".repeat(9) + "j200");
+        Spell.law(y, 0, "500");
+        y.set(6, 0);
+        Spell.walk(y, 0, "s12");
         DUE.is("no HOLE is best", y.best(0, 18), 0);
         DUE.row("no HOLE is best", y, 999);
         DUE.is("no TICKS", x.best(0, 6), 100);
