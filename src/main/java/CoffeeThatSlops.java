@@ -773,8 +773,8 @@ public final class CoffeeThatSlops {
     // ---- kept
 
     public int seed(int v) {
-        int was = state.random;
-        state.random = v;
+        int was = state.drawn;
+        state.drawn = v;
         return was;
     }
 
@@ -1061,7 +1061,7 @@ public final class CoffeeThatSlops {
     /** THE STATE, R, and SLOPES that were seen. */
     private static final class State {
         int tick = 0;
-        int random = 1;
+        int drawn = 1;
         final Row along = new Row();
         final Row across = new Row();
         // SLOPES ALONG as TICKS began, each at its TICK's number by the length, so that eyes can see late
@@ -1075,7 +1075,7 @@ public final class CoffeeThatSlops {
 
         void copy(State from) {
             tick = from.tick;
-            random = from.random;
+            drawn = from.drawn;
             along.copy(from.along);
             across.copy(from.across);
             System.arraycopy(from.seen, 0, seen, 0, seen.length);
@@ -1104,8 +1104,8 @@ public final class CoffeeThatSlops {
             if (most <= 0) {
                 return 0;
             }
-            random = random * 1103515245 + 12345;
-            return (random >>> 16) % (2 * most + 1) - most;
+            drawn = drawn * 1103515245 + 12345;
+            return (drawn >>> 16) % (2 * most + 1) - most;
         }
 
         int given(Cup cup, Law law, int push) {
@@ -1491,7 +1491,7 @@ public final class CoffeeThatSlops {
 
         private void begin(int seed) {
             state.freshen(cup);
-            state.random = seed;
+            state.drawn = seed;
             stopsAtSpill = false;
             spilt = 0;
             firstTick = NONE;
@@ -1624,7 +1624,7 @@ public final class CoffeeThatSlops {
             bestLength = 0;
             bestTicks = Integer.MAX_VALUE;
             states[0].freshen(cup);
-            states[0].random = 1;
+            states[0].drawn = 1;
         }
 
         // Rows come in their order, so of equal ones the first that is found is the least.
