@@ -561,7 +561,10 @@ public final class CoffeeThatSlops {
         }
         int best = NONE;
         int least = Integer.MAX_VALUE;
-        for (int at = 0; at <= walks[walk].ticks; at += 10) {
+        int ticks = walks[walk].ticks;
+        for (int tens = 0; tens < ticks + 10; tens += 10) {
+            // the last door is at the WALK's TICKS, be they a multiple of 10 or not
+            int at = Math.min(tens, ticks);
             int spilt = asItIs().spiltWithTurn(walks[walk], at);
             if (spilt < least) {
                 least = spilt;

@@ -92,7 +92,10 @@ public final class OtherCupsTest {
                 List<int[]> ticks = Carry.ticks(walk);
                 int want = -1;
                 int least = Integer.MAX_VALUE;
-                for (int at = 0; at <= ticks.size(); at += 10) {
+                for (int at = 0; at <= ticks.size(); at++) {
+                    if (at % 10 != 0 && at != ticks.size()) {
+                        continue;
+                    }
                     int spilt = Carry.some(k).run(ticks, at).spilt;
                     if (spilt < least) {
                         least = spilt;
@@ -107,12 +110,52 @@ public final class OtherCupsTest {
             }
         }
         DUE.is("some door is later", later > 3, true);
-        // at its TICKS too: the jerk of the last one does not come ALONG, where the slope is
+        doorAtItsTicks();
         CoffeeThatSlops x = Spell.cup(2, 100, 98, "g0,10,200*1");
         DUE.is("door(-1)", x.door(-1), -1);
         DUE.is("door(4)", x.door(4), -1);
+        DUE.is("a refused door tells nothing", x.count(7), 0);
         DUE.is("no TICKS", x.door(3), 0);
         DUE.row("no TICKS", x, 0);
+    }
+
+    /** By a hand that steadies what comes ALONG alone, the best door may be the one at the TICKS, where nothing turns. */
+    private static void doorAtItsTicks() {
+        int atTicks = 0;
+        int atTens = 0;
+        for (int each = 2; each <= 10; each++) {
+            for (int times = 1; times <= 9; times++) {
+                String walk = "g20," + each + ",40*" + times;
+                int ticks = each * times;
+                Carry c = new Carry();
+                c.cells = 8;
+                c.rim = 100;
+                c.fill = 80;
+                c.settings[6] = 0;
+                c.laws[0] = "p-s";
+                int want = -1;
+                int least = Integer.MAX_VALUE;
+                for (int tens = 0; tens < ticks + 10; tens += 10) {
+                    int at = Math.min(tens, ticks);
+                    int spilt = c.run(Carry.ticks(walk), at).spilt;
+                    want = spilt < least ? at : want;
+                    least = Math.min(spilt, least);
+                }
+                atTicks += want == ticks && ticks % 10 != 0 ? 1 : 0;
+                atTens += want == ticks && ticks % 10 == 0 ? 1 : 0;
+                CoffeeThatSlops x = c.make();
+                Spell.walk(x, 0, walk);
+                DUE.is("door of " + walk, x.door(0), want);
+                DUE.row("door of " + walk, x, least);
+            }
+        }
+        DUE.is("some door is at TICKS that are no multiple of 10", atTicks > 3, true);
+        DUE.is("some door is at TICKS that are a multiple of 10", atTens > 0, true);
+        CoffeeThatSlops x = new CoffeeThatSlops();
+        Spell.law(x, 0, "p-s");
+        x.set(6, 0);
+        DUE.is("6 TICKS", Spell.walk(x, 0, "g100,3,0*2"), 6);
+        DUE.is("door at 6 of 6", x.door(0), 6);
     }
 
     private static void two() {

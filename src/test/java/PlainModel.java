@@ -5,6 +5,7 @@ import java.util.HashMap;
 import java.util.List;
 import java.util.Map;
 import java.util.NoSuchElementException;
+import java.util.TreeSet;
 import java.util.regex.Matcher;
 import java.util.regex.Pattern;
 
@@ -792,11 +793,13 @@ public final class PlainModel {
         if (!in(walk, 0, 3)) {
             return -1;
         }
-        int[] spilt = new int[walks.get(walk).size() / 10 + 1];
-        for (int i = 0; i < spilt.length; i++) {
-            spilt[i] = carry(trial(), walks.get(walk), 1, 10 * i).spilt;
+        TreeSet<Integer> doors = new TreeSet<>();
+        doors.add(walks.get(walk).size());
+        for (int at = 0; at < walks.get(walk).size(); at += 10) {
+            doors.add(at);
         }
-        return 10 * firstLeast(spilt);
+        int[] ats = doors.stream().mapToInt(i -> i).toArray();
+        return ats[firstLeast(Arrays.stream(ats).map(at -> carry(trial(), walks.get(walk), 1, at).spilt).toArray())];
     }
 
     /** The place of the least; the ROW is that. */
