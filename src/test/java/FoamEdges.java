@@ -132,8 +132,7 @@ final class FoamEdges {
 
     private void fewHoles() {
         e.cup("cup(3, 14, 8)").walks(0, "j-58").is("few(0, 0)", 1).row(0).is("few(0, 90)", 1).row(0).is("few(0, 99)", -2)
-            .row(0)
-            .none("few(0, 100)", "few(0, -1)").row(0);
+            .row(0).none("few(0, 100)", "few(0, -1)").row(0);
     }
 
     private void fewLeastRow() {

@@ -172,6 +172,9 @@ final class OtherCupsEdges {
         // TICKS are counted for each cup from its own first one on, STEPS as in the WALK
         dull("s5").does("set(6, 0)").law(0, "t/4*32", 0).is("two(0)", 1).row(1, 0);
         dull("g0,2,4*1;g0,2,32*1").is("would(0, 1)", 3).is("two(0)", 4).row(3, 0);
+        // both by THE HAND: one that steadies what it sees ALONG
+        e.cup("set(6, 0)").law(0, "p+s", 0).walks(0, "g60,12,0*4").is("two(0)", 40).row(269, 59).walks(0, "g20,8,0*4")
+            .is("two(0)", 2).row(2, 0);
         // R 1 for each: the first DRAWS bring 22, -5
         e.cup("cup(2, 14, 12)", "set(0, 1)", "set(1, 0)", "seed(6)").walks(0, "w50;s2").is("two(0)", 1).row(2, 0)
             .is("seed(1)", 6);
@@ -232,8 +235,7 @@ final class OtherCupsEdges {
 
     private void stopRefused() {
         e.cup("cup(2, 100, 100)", "set(1, 0)", "steps(0)").is("stop(8)", -2).row(0, 0, 0)
-            .none("stop(0)", "stop(5001)", "stop(-1)")
-            .none("stop(MAX)", "stop(MIN)").row(0, 0, 0);
+            .none("stop(0)", "stop(5001)", "stop(-1)").none("stop(MAX)", "stop(MIN)").row(0, 0, 0);
     }
 
     private void pauseAt() {
@@ -242,8 +244,7 @@ final class OtherCupsEdges {
         x.is("pause(0, 0)", 0).row(0).is("pause(0, 1)", 0).row(0).is("pause(0, 2)", 0).row(0).is("pause(0, 1000)", 0).row(0);
         // behind the last one: what goes over in the pause counts as well
         e.cup("cup(2, 100, 97)", "set(0, 1)", "set(1, 0)").walks(0, "j16").is("pause(0, 1)", 0).row(0)
-            .is("pause(0, 1000)", 0)
-            .row(0).is("pause(0, 0)", 0).row(0);
+            .is("pause(0, 1000)", 0).row(0).is("pause(0, 0)", 0).row(0);
         e.cup("cup(4, 26, 16)").walk(0, "g36,7,8*3", 21).is("pause(0, 21)", 0).is("pause(0, 22)", 0).is("pause(0, 1000)", 0);
         dull("").is("pause(0, 0)", 0).row(0).is("pause(0, 1000)", 0).row(0);
         // before it: before TICK 1 a pause helps, before 0 and before 2 it does not

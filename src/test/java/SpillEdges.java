@@ -224,6 +224,9 @@ final class SpillEdges {
         // the first WALK in a FRESH cup, the second in what it leaves: behind the jerk 11 TICKS more would spill
         Asked x = e.cup("cup(8, 16, 7)", "leads(0, 5)", "leads(1, 6)").walks(0, "j33").walks(1, "s11").is("plan(11)", 12);
         x.row(1, 0).does("tick(300, 300)", "tick(99, -99)", "seed(9)").is("plan(11)", 12).row(1, 0).is("seed(9)", 9);
+        // by a hand that steadies what it sees ALONG nothing is SPILT
+        e.cup("leads(0, 5)").law(0, "p+s", 0).walks(0, "g30,6,0*4").is("plan(5)", -2).does("set(6, 0)").is("plan(5)", 24)
+            .row(0);
         // the TICK goes on through all WALKS: from TICK 3 on the LAW pushes
         e.cup("cup(2, 99, 99)", "set(6, 1)", "leads(0, 1)").law(1, "t/3*300", 0).walks(0, "s2").is("plan(1)", 2).row(0)
             .is("plan(2)", -2).does("set(6, 3)").is("plan(2)", 4).row(0, 0);

@@ -113,8 +113,7 @@ final class SwingEdges {
 
     private void diesRefused() {
         e.cup("steps(0)").none("dies(0, 5)", "dies(501, 5)", "dies(5, 0)", "dies(5, 101)", "dies(-5, 5)", "dies(5, -5)")
-            .none("dies(MAX, 5)", "dies(MIN, 5)", "dies(5, MAX)")
-            .none("dies(5, MIN)", "dies(0, 0)").row(0, 0, 0);
+            .none("dies(MAX, 5)", "dies(MIN, 5)", "dies(5, MAX)").none("dies(5, MIN)", "dies(0, 0)").row(0, 0, 0);
         e.cup("cup(2, 100, 50)", "wall(0, 0)").is("dies(500, 100)", 0).is("dies(1, 1)", -2).none("dies(0, 1)");
     }
 
@@ -142,6 +141,8 @@ final class SwingEdges {
     }
 
     private void worstOfEqualOnes() {
+        // a greater SLOPE that was told ahead is of no matter
+        e.cup().walks(0, "g200,16,0*20").is("worst(200)", 16).row(640).does("would(0, 1)").is("worst(1)", 25).row(50);
         Asked x = e.cup("sheet(2, 7, 0, 0)");
         for (String push : new String[] {"1", "9", "200"}) {
             x.is("worst(" + push + ")", 2).row(0);
