@@ -65,7 +65,7 @@ public final class CoffeeThatSlops {
     private final Law[] laws = new Law[LAWS];
     private Law spareLaw = new Law();
     private final Trial trial = new Trial();
-    private final Planner planner = new Planner(walks, metres);
+    private final Planner planner = new Planner();
     private final int[] spots = new int[MOST_SPOTS];
     private int spotCount = 0;
     private final Films films = new Films();
@@ -379,12 +379,12 @@ public final class CoffeeThatSlops {
             return NONE;
         }
         planner.begin(cup, toldLaw(cup.settings[HAND]), metres);
-        planner.extend(0, 0, 0);
+        extend(planner, walks, this.metres, 0, 0, 0);
         if (planner.bestLength == 0) {
             return NO_WAY;
         }
         toldCount = 0;
-        for (int i = 0; i < planner.bestLength; i++) {
+        for (int i = 0; i < planner.bestLength && i < planner.best.length; i++) {
             tellMore(planner.best[i]);
         }
         return planner.bestTicks;
@@ -416,6 +416,23 @@ public final class CoffeeThatSlops {
         }
         tell(spiltWithout, least, first);
         return bits;
+    }
+
+    // Rows come in their order, so of equal ones the first that is found is the least.
+    private static void extend(Planner planner, Walk[] walks, int[] metres, int length, int led, int ticks) {
+        for (int i = 0; i < WALKS && length < WALKS; i++) {
+            int far = led + metres[i];
+            int all = ticks + walks[i].ticks;
+            if (metres[i] == 0 || all >= planner.bestTicks || !planner.carries(length, walks[i])) {
+                continue;
+            }
+            planner.choose(length, i);
+            if (far < planner.goal) {
+                extend(planner, walks, metres, length + 1, far, all);
+            } else {
+                planner.noteBest(length + 1, all);
+            }
+        }
     }
 
     // ---- foam, walls, lids
@@ -1599,58 +1616,38 @@ public final class CoffeeThatSlops {
         }
     }
 
-    /** Looks for the soonest row of WALKS that leads far enough with nothing SPILT. */
+    /** Rows of WALKS, each carried from where the one ahead of it ends, and the soonest that leads far enough. */
     private static final class Planner {
-        private final Walk[] walks;
-        private final int[] metres;
+        private final Cup cup = new Cup();
+        private Law law = null;
         private final State[] states = new State[WALKS + 1];
         private final int[] chosen = new int[WALKS];
-        private Cup cup = null;
-        private Law law = null;
-        private int goal = 0;
+        int goal = 0;
         final int[] best = new int[WALKS];
         int bestLength = 0;
         int bestTicks = 0;
 
-        Planner(Walk[] walks, int[] metres) {
-            this.walks = walks;
-            this.metres = metres;
+        Planner() {
             for (int i = 0; i < states.length; i++) {
                 states[i] = new State();
             }
         }
 
-        void begin(Cup cup, Law law, int goal) {
-            this.cup = cup;
-            this.law = law;
-            this.goal = goal;
+        void begin(Cup from, Law by, int metres) {
+            cup.copy(from);
+            law = by;
+            goal = metres;
             bestLength = 0;
             bestTicks = Integer.MAX_VALUE;
             states[0].freshen(cup);
             states[0].drawn = 1;
         }
 
-        // Rows come in their order, so of equal ones the first that is found is the least.
-        void extend(int length, int led, int ticks) {
-            if (length >= chosen.length) {
-                return;
+        /** Whether a WALK behind the first so many spills nothing. */
+        boolean carries(int length, Walk walk) {
+            if (!isIn(length, 0, WALKS - 1)) {
+                return false;
             }
-            for (int i = 0; i < walks.length && i < metres.length; i++) {
-                int far = led + metres[i];
-                int all = ticks + walks[i].ticks;
-                if (metres[i] == 0 || all >= bestTicks || !carries(length, walks[i])) {
-                    continue;
-                }
-                chosen[length] = i;
-                if (far < goal) {
-                    extend(length + 1, far, all);
-                } else {
-                    noteBest(length + 1, all);
-                }
-            }
-        }
-
-        private boolean carries(int length, Walk walk) {
             State next = states[length + 1];
             next.copy(states[length]);
             for (int i = 0; i < walk.ticks; i++) {
@@ -1661,7 +1658,13 @@ public final class CoffeeThatSlops {
             return true;
         }
 
-        private void noteBest(int length, int ticks) {
+        void choose(int place, int walk) {
+            if (isIn(place, 0, WALKS - 1)) {
+                chosen[place] = walk;
+            }
+        }
+
+        void noteBest(int length, int ticks) {
             bestLength = length;
             bestTicks = ticks;
             System.arraycopy(chosen, 0, best, 0, chosen.length);

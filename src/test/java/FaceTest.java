@@ -4,8 +4,10 @@ import java.lang.reflect.Method;
 import java.lang.reflect.Modifier;
 import java.nio.file.Files;
 import java.nio.file.Path;
+import java.util.ArrayList;
 import java.util.Arrays;
 import java.util.HashSet;
+import java.util.List;
 import java.util.Set;
 import java.util.TreeSet;
 import java.util.regex.Matcher;
@@ -29,12 +31,18 @@ public final class FaceTest {
         "->", "::", "\\bsynchronized\\b", "\\bassert\\b", "\\bfinally\\b", "\\bSystem\\.(?!arraycopy)", "\\bThread\\b",
         "\\bRandom\\b", "\\bString\\.format", "\\bstatic\\s*\\{", "\\bcatch\\b", "Exact\\(", "\\bNaN\\b", "\\bprotected\\b"};
 
+    private static final Path DOC = Path.of("../shared/DOC.md");
+
     public static void main(String[] args) throws Exception {
         Due due = new Due();
         members(due);
         nested(due);
         if (args.length > 0) {
-            source(due, Files.readString(Path.of(args[0])));
+            String text = Files.readString(Path.of(args[0]));
+            source(due, text);
+            if (Files.exists(DOC)) {
+                printed(due, text, Files.readString(DOC));
+            }
         }
         due.end();
     }
@@ -129,5 +137,50 @@ public final class FaceTest {
         while (thrown.find()) {
             due.is("throws " + thrown.group(1), thrown.group(1).equals("NoSuchElementException"), true);
         }
+    }
+
+    /** The face as the document prints it, line by line, and its calls behind the words that stand ahead of them. */
+    private static void printed(Due due, String text, String doc) {
+        List<String> open = new ArrayList<>();
+        Matcher m = Pattern.compile("(?m)^(import .*;|public .* \\{|    public .*)$").matcher(text);
+        while (m.find()) {
+            if (!m.group(1).equals("import java.util.Arrays;")) {
+                open.add(m.group(1).trim().replaceAll(" \\{$", "").replaceAll("\\)( throws \\w+)?$", ")$1;"));
+            }
+        }
+        String face = doc.substring(doc.indexOf("```java\n") + 8, doc.indexOf("\n}\n```"));
+        List<String> wanted = new ArrayList<>();
+        for (String line : face.split("\n")) {
+            if (!line.isBlank()) {
+                wanted.add(line.trim().replaceAll(" \\{$", ""));
+            }
+        }
+        due.is("lines of the face", open.size(), wanted.size());
+        for (String line : wanted) {
+            due.is("the face has: " + line, open.contains(line), true);
+        }
+        for (String line : open) {
+            due.is("the document prints: " + line, wanted.contains(line), true);
+        }
+        sections(due, text, doc);
+    }
+
+    private static void sections(Due due, String text, String doc) {
+        Matcher m = Pattern.compile("(?m)^Ahead of the calls (.*) the interface says: (---- .*)\\.$").matcher(doc);
+        int sections = 0;
+        while (m.find()) {
+            sections++;
+            String ahead = "    // " + m.group(2) + "\n";
+            due.is("the file has " + ahead, text.contains(ahead), true);
+            String behind = text.substring(text.indexOf(ahead) + ahead.length());
+            String section = behind.substring(0, behind.indexOf("\n    // ----"));
+            StringBuilder calls = new StringBuilder();
+            Matcher call = Pattern.compile("(?m)^    public \\w+ (\\w+)\\(").matcher(section);
+            while (call.find()) {
+                calls.append(calls.length() == 0 ? "" : ", ").append("`").append(call.group(1)).append("`");
+            }
+            due.is("behind " + m.group(2) + " are " + calls, calls.toString().equals(m.group(1)), true);
+        }
+        due.is("sections", sections, 9);
     }
 }
